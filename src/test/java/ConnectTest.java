@@ -12,6 +12,10 @@ public final class ConnectTest {
         resumeSendsClientEntriesOldestFirst();
         resumeSendsBrokerEntriesOldestFirst();
         resumeKeepsHeldSets();
+        for (int c = 0; c < 4; c++) {
+            resumeOfEveryClient(c, (c + 1) % 4);
+            everyHeldIdGoes(c, (c + 1) % 4);
+        }
         otherClientsStay();
         DUE.end();
     }
@@ -186,6 +190,51 @@ public final class ConnectTest {
         Moves.settle(x);
         DUE.is("accepted once", x.accepted(1), 1);
         DUE.is("received once", x.received(0, 2), 1);
+    }
+
+    private static void resumeOfEveryClient(int c, int publisher) {
+        PubSubBroker x = new PubSubBroker();
+        x.connect(c, false);
+        x.connect(publisher, false);
+        x.subscribe(c, 1, 2);
+        x.publish(publisher, 1, 1, 2);
+        x.toBroker(publisher);
+        x.publish(c, 2, 1, 1);
+        x.publish(c, 2, 1, 2);
+        x.disconnect(c);
+        DUE.is("connect " + c, x.connect(c, false), 1);
+        DUE.is("up " + c, x.pending(c, PubSubBroker.P_UP), 2);
+        DUE.is("down " + c, x.pending(c, PubSubBroker.P_DOWN), 1);
+        DUE.is("up of the other", x.pending(publisher, PubSubBroker.P_UP), 0);
+        DUE.is("down of the other", x.pending(publisher, PubSubBroker.P_DOWN), 1);
+        Moves.settle(x);
+        DUE.is("received " + c, x.received(c, 1), 1);
+        DUE.is("accepted", x.accepted(2) + x.accepted(3), 2);
+    }
+
+    private static void everyHeldIdGoes(int c, int publisher) {
+        PubSubBroker x = new PubSubBroker();
+        x.connect(c, false);
+        x.connect(publisher, true);
+        x.subscribe(c, 1, 2);
+        for (int s = 1; s <= 16; s++) {
+            Moves.publishThroughBroker(x, publisher, 1, 2);
+        }
+        Moves.down(x, c);
+        for (int s = 17; s <= 20; s++) {
+            x.publish(c, 2, 1, 2);
+        }
+        Moves.up(x, c);
+        DUE.is("client held", x.pending(c, PubSubBroker.P_CLIENT_HELD), 16);
+        DUE.is("broker held", x.pending(c, PubSubBroker.P_BROKER_HELD), 4);
+        x.disconnect(c);
+        DUE.is("client held, down", x.pending(c, PubSubBroker.P_CLIENT_HELD), 16);
+        x.connect(c, true);
+        DUE.is("client held, clean", x.pending(c, PubSubBroker.P_CLIENT_HELD), 0);
+        DUE.is("broker held, clean", x.pending(c, PubSubBroker.P_BROKER_HELD), 0);
+        x.publish(c, 2, 1, 2);
+        x.toBroker(c);
+        DUE.is("id 1 is new to the broker", x.accepted(21), 1);
     }
 
     private static void otherClientsStay() {

@@ -10,6 +10,9 @@ public final class PublishTest {
         brokerIsNotTouched();
         clientOutbox();
         smallestFreeId();
+        for (int c = 0; c < 4; c++) {
+            idsOfAStalledExchange(c);
+        }
         fullWire();
         anyPayload();
         DUE.end();
@@ -145,6 +148,35 @@ public final class PublishTest {
         DUE.is("all but one wait", x.pending(0, PubSubBroker.P_CLIENT_OUT), 3);
         Moves.settle(x);
         for (int s = 1; s <= 7; s++) {
+            DUE.is("accepted " + s, x.accepted(s), 1);
+        }
+    }
+
+    /** With its PUBREC lost on a full wire, serial 3 keeps id 2 held at the broker: no later serial may take it. */
+    private static void idsOfAStalledExchange(int c) {
+        PubSubBroker x = new PubSubBroker();
+        x.connect(c, true);
+        Moves.publishThrough(x, c, 1, 1, 4);
+        x.publish(c, 2, 1, 1);
+        x.publish(c, 2, 1, 2);
+        x.toBroker(c);
+        x.toClient(c);
+        x.publish(c, 2, 1, 1);
+        for (int i = 0; i < 32; i++) {
+            x.subscribe(c, 1, 0);
+        }
+        DUE.is("serial 3", x.toBroker(c), PubSubBroker.PUBLISH);
+        DUE.is("PUBREC is lost", Moves.down(x, c), "1".repeat(32));
+        DUE.is("serial 4", Moves.up(x, c), "1");
+        DUE.is("ends", Moves.down(x, c), "2");
+        DUE.is("serial 3 stays", x.pending(c, PubSubBroker.P_CLIENT_OUT), 1);
+        for (int s = 5; s <= 7; s++) {
+            DUE.is("publish", x.publish(c, 2, 1, 2), s);
+        }
+        DUE.is("no more", x.publish(c, 2, 1, 2), PubSubBroker.ERR_FULL);
+        Moves.up(x, c);
+        DUE.is("four ids are held", x.pending(c, PubSubBroker.P_BROKER_HELD), 4);
+        for (int s = 3; s <= 7; s++) {
             DUE.is("accepted " + s, x.accepted(s), 1);
         }
     }

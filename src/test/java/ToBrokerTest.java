@@ -15,7 +15,7 @@ public final class ToBrokerTest {
         retainedEntries();
         retainedLimit();
         repliesOfTheClient();
-        repliesThatFitNoEntry();
+        releasedEntryIsNotSentAgain();
         fullDownWire();
         sendComesBeforeReply();
         DUE.end();
@@ -219,6 +219,10 @@ public final class ToBrokerTest {
         DUE.is("another topic stays", x.retainedSerial(33), 6);
         DUE.is("publications of payload 0 are sent", x.received(0, 7), 1);
         DUE.is("live ones carry no mark", x.retainedReceived(0), 0);
+        Moves.publishThrough(x, 0, 33, 0, 4);
+        DUE.is("the last one removed", x.retainedSerial(33), 0);
+        Moves.publishThrough(x, 0, 33, 1, 4);
+        DUE.is("made anew", x.retainedSerial(33), 9);
 
         PubSubBroker y = new PubSubBroker();
         y.connect(0, false);
@@ -275,11 +279,11 @@ public final class ToBrokerTest {
         DUE.is("PUBREL", Moves.down(x, 0), "4");
         DUE.is("PUBCOMP", x.toBroker(0), PubSubBroker.PUBCOMP);
         DUE.is("outbox", x.pending(0, PubSubBroker.P_BROKER_OUT), 0);
+        DUE.is("no stage left", x.brokerStage(0, 2), PubSubBroker.STAGE_NONE);
         DUE.is("no answer to it", x.pending(0, PubSubBroker.P_DOWN), 0);
     }
 
-    /** A resend makes the client answer twice; the second answer meets an id that has gone or serves anew. */
-    private static void repliesThatFitNoEntry() {
+    private static void releasedEntryIsNotSentAgain() {
         PubSubBroker x = new PubSubBroker();
         x.connect(0, false);
         x.connect(1, true);

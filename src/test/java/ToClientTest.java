@@ -9,7 +9,9 @@ public final class ToClientTest {
         qualityTwoIsDeliveredOnce();
         markedOnesCountApart();
         repliesOfTheBroker();
-        idsOfTheBrokerOutbox();
+        for (int c = 0; c < 4; c++) {
+            idsOfTheBrokerOutbox(c, (c + 1) % 4);
+        }
         fullUpWire();
         DUE.end();
     }
@@ -133,31 +135,31 @@ public final class ToClientTest {
     }
 
     /** Sixteen exchanges at once, ended from the middle, so that freed ids serve again beside used ones. */
-    private static void idsOfTheBrokerOutbox() {
+    private static void idsOfTheBrokerOutbox(int c, int publisher) {
         PubSubBroker x = new PubSubBroker();
-        x.connect(0, true);
-        x.connect(1, true);
-        x.subscribe(0, 15, 2);
+        x.connect(c, true);
+        x.connect(publisher, true);
+        x.subscribe(c, 15, 2);
         for (int s = 1; s <= 16; s++) {
-            Moves.publishThroughBroker(x, 1, 1, s % 2 == 0 ? 1 : 2);
+            Moves.publishThroughBroker(x, publisher, 1, s % 2 == 0 ? 1 : 2);
         }
-        Moves.down(x, 0);
-        DUE.is("held", x.pending(0, PubSubBroker.P_CLIENT_HELD), 8);
-        Moves.up(x, 0);
-        DUE.is("those of quality 2 wait", x.pending(0, PubSubBroker.P_BROKER_OUT), 8);
+        Moves.down(x, c);
+        DUE.is("held", x.pending(c, PubSubBroker.P_CLIENT_HELD), 8);
+        Moves.up(x, c);
+        DUE.is("those of quality 2 wait", x.pending(c, PubSubBroker.P_BROKER_OUT), 8);
         for (int s = 17; s <= 24; s++) {
-            Moves.publishThroughBroker(x, 1, 1, 2);
-            DUE.is("stage " + s, x.brokerStage(0, s), PubSubBroker.STAGE_PUB);
+            Moves.publishThroughBroker(x, publisher, 1, 2);
+            DUE.is("stage " + s, x.brokerStage(c, s), PubSubBroker.STAGE_PUB);
         }
-        DUE.is("PUBREL first", Moves.down(x, 0), "4444444411111111");
-        DUE.is("held", x.pending(0, PubSubBroker.P_CLIENT_HELD), 8);
+        DUE.is("PUBREL first", Moves.down(x, c), "4444444411111111");
+        DUE.is("held", x.pending(c, PubSubBroker.P_CLIENT_HELD), 8);
         Moves.settle(x);
         for (int s = 1; s <= 24; s++) {
-            DUE.is("received " + s, x.received(0, s), 1);
+            DUE.is("received " + s, x.received(c, s), 1);
         }
-        DUE.is("broker outbox", x.pending(0, PubSubBroker.P_BROKER_OUT), 0);
-        DUE.is("held", x.pending(0, PubSubBroker.P_CLIENT_HELD), 0);
-        DUE.is("overflow", x.pending(0, PubSubBroker.P_OVERFLOW), 0);
+        DUE.is("broker outbox", x.pending(c, PubSubBroker.P_BROKER_OUT), 0);
+        DUE.is("held", x.pending(c, PubSubBroker.P_CLIENT_HELD), 0);
+        DUE.is("overflow", x.pending(c, PubSubBroker.P_OVERFLOW), 0);
     }
 
     private static void fullUpWire() {
