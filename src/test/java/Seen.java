@@ -3,6 +3,8 @@ final class Seen {
     private static final int CODES = 4096;
     private static final int[] WRONG_CLIENTS = {-1, 4, 5, 100, Integer.MIN_VALUE, Integer.MAX_VALUE};
 
+    private static final String[] NAMES = names();
+
     private Seen() {
     }
 
@@ -34,6 +36,18 @@ final class Seen {
 
     /** Which query stands at this place of all(). */
     static String name(int place) {
+        return NAMES[place];
+    }
+
+    private static String[] names() {
+        String[] names = new String[all(new PubSubBroker()).length];
+        for (int place = 0; place < names.length; place++) {
+            names[place] = nameOf(place);
+        }
+        return names;
+    }
+
+    private static String nameOf(int place) {
         int perClient = 2 + 7 + 2 * 24 + CODES;
         int c = place / perClient;
         if (c >= 4) {

@@ -1,3 +1,5 @@
+import java.util.Set;
+
 /** Promise 5. */
 public final class UnsubscribeTest {
     private static final Due DUE = new Due("UnsubscribeTest");
@@ -64,12 +66,7 @@ public final class UnsubscribeTest {
         DUE.is("subscription", x.subscriptionQos(0, 1), -1);
         x.subscribe(0, 3, 0);
         x.unsubscribe(0, 3);
-        int[] after = Seen.all(x);
-        int changed = 0;
-        for (int i = 0; i < before.length; i++) {
-            changed += before[i] == after[i] ? 0 : 1;
-        }
-        DUE.is("queries with another answer", changed, 1);
+        DUE.changedAlone("unsubscribe", x, before, Set.of("subscriptionQos(0, 1)"));
         DUE.is("the entry's exchange goes on", Moves.up(x, 0), "13");
     }
 
