@@ -16,7 +16,11 @@ final class Due {
     void sentence(String words, Runnable sentenceTest) {
         int before = compared;
         sentence = " [" + words + "]";
-        sentenceTest.run();
+        try {
+            sentenceTest.run();
+        } catch (RuntimeException e) {
+            fail("a call threw " + e);
+        }
         if (compared == before) {
             fail("nothing was compared");
         }

@@ -48,7 +48,10 @@ public final class LimitsEdgeTest {
         DUE.sentence("A new entry takes the smallest id not used by the other entries of that outbox: 1..CLIENT_OUT "
                 + "at a client", () -> idsAtAClient(c));
         DUE.sentence("1..BROKER_OUT at the broker", () -> idsAtTheBroker(c, other));
-        DUE.sentence("Removing an entry frees its id.", () -> freedIds(c));
+        DUE.sentence("Removing an entry frees its id. (in turn)", () -> freedIds(c));
+        DUE.sentence("Removing an entry frees its id. (the newest entry of a client)", () -> freedNewestAtAClient(c));
+        DUE.sentence("Removing an entry frees its id. (the newest entry of the broker)",
+                () -> freedNewestAtTheBroker(c, other));
         DUE.sentence("DISCARDING c's session empties c's subscriptions, both of c's outboxes and both of c's HELD "
                 + "sets, and marks the session absent.", () -> discarding(c));
     }
@@ -514,6 +517,49 @@ public final class LimitsEdgeTest {
             DUE.is("accepted", x.accepted(s), 1);
             DUE.is("received", x.received(c, s), 1);
             DUE.is("outboxes", x.pending(c, CLIENT_OUT) + x.pending(c, BROKER_OUT), 0);
+        }
+    }
+
+    /** Id 1 goes from the oldest entry to the newest and then to another; 2 and 3 stay in use all the time. */
+    private static void freedNewestAtAClient(int c) {
+        PubSubBroker x = new PubSubBroker();
+        x.connect(c, true);
+        x.publish(c, 1, 1, 1);
+        x.publish(c, 1, 1, 2);
+        x.publish(c, 1, 1, 2);
+        Moves.up(x, c);
+        x.toClient(c);
+        x.publish(c, 1, 1, 1);
+        x.toBroker(c);
+        DUE.is("the newest ends", Moves.down(x, c), "332");
+        x.publish(c, 1, 1, 2);
+        DUE.is("entries", x.pending(c, CLIENT_OUT), 3);
+        Moves.settle(x);
+        DUE.is("all end", x.pending(c, CLIENT_OUT) + x.pending(c, BROKER_HELD), 0);
+        for (int s = 1; s <= 5; s++) {
+            DUE.is("accepted once", x.accepted(s), 1);
+        }
+    }
+
+    private static void freedNewestAtTheBroker(int c, int other) {
+        PubSubBroker x = new PubSubBroker();
+        x.connect(c, true);
+        x.connect(other, true);
+        x.subscribe(c, 1, 2);
+        Moves.publishThroughBroker(x, other, 1, 1);
+        Moves.publishThroughBroker(x, other, 1, 2);
+        Moves.publishThroughBroker(x, other, 1, 2);
+        Moves.down(x, c);
+        x.toBroker(c);
+        Moves.publishThroughBroker(x, other, 1, 1);
+        x.toClient(c);
+        DUE.is("the newest ends", Moves.up(x, c), "332");
+        Moves.publishThroughBroker(x, other, 1, 2);
+        DUE.is("entries", x.pending(c, BROKER_OUT), 3);
+        Moves.settle(x);
+        DUE.is("all end", x.pending(c, BROKER_OUT) + x.pending(c, CLIENT_HELD), 0);
+        for (int s = 1; s <= 5; s++) {
+            DUE.is("received once", x.received(c, s), 1);
         }
     }
 

@@ -161,15 +161,28 @@ public final class LinksEdgeTest {
     }
 
     private static void cleanDiscardsPersistent() {
-        PubSubBroker x = Start.BUSY.make();
-        DUE.is("connect", x.connect(2, true), 0);
+        discardedByConnect(Start.BUSY, 2);
+        discardedByConnect(Start.FULL_DOWN, 0);
+    }
+
+    private static void discardedByConnect(Start start, int c) {
+        PubSubBroker x = start.make();
+        DUE.is("connect", x.connect(c, true), 0);
+        nothingIsLeft(x, c);
+        x.disconnect(c);
+        DUE.is("no persistent session is left", x.connect(c, false), 0);
+    }
+
+    private static void nothingIsLeft(PubSubBroker x, int c) {
         for (int which = 0; which <= 5; which++) {
-            DUE.is("pending " + which, x.pending(2, which), 0);
+            DUE.is("pending " + which, x.pending(c, which), 0);
         }
-        DUE.is("subscription", x.subscriptionQos(2, 241), -1);
-        DUE.is("subscription", x.subscriptionQos(2, 225), -1);
-        x.disconnect(2);
-        DUE.is("no persistent session is left", x.connect(2, false), 0);
+        for (int filter = 0; filter <= 4095; filter++) {
+            DUE.is("subscriptionQos " + filter, x.subscriptionQos(c, filter), -1);
+        }
+        for (int s = 1; s <= 24; s++) {
+            DUE.is("brokerStage " + s, x.brokerStage(c, s), PubSubBroker.STAGE_NONE);
+        }
     }
 
     private static void absentSession() {
@@ -271,11 +284,7 @@ public final class LinksEdgeTest {
         PubSubBroker x = Start.BUSY.make();
         DUE.yes("disconnect", x.disconnect(1));
         DUE.is("status", x.status(1), 0);
-        for (int which = 0; which <= 5; which++) {
-            DUE.is("pending " + which, x.pending(1, which), 0);
-        }
-        DUE.is("subscription", x.subscriptionQos(1, 241), -1);
-        DUE.is("subscription", x.subscriptionQos(1, 225), -1);
+        nothingIsLeft(x, 1);
         DUE.is("nothing to resume", x.connect(1, false), 0);
         DUE.is("up and down", x.pending(1, UP) + x.pending(1, DOWN), 0);
     }

@@ -303,21 +303,33 @@ public final class SubscribeEdgeTest {
     }
 
     private static void unsubscribeEach() {
+        for (int c = 0; c < 4; c++) {
+            for (int gone = 0; gone < 4; gone++) {
+                unsubscribeOne(c, gone);
+            }
+        }
+    }
+
+    /** Four subscriptions of each client, so that the lists of the others stand around the one that is changed. */
+    private static void unsubscribeOne(int c, int gone) {
         int[] filters = {15, 241, 225, 33};
-        for (int gone = 0; gone < 4; gone++) {
-            PubSubBroker x = new PubSubBroker();
-            x.connect(0, true);
+        PubSubBroker x = new PubSubBroker();
+        for (int d = 0; d < 4; d++) {
+            x.connect(d, true);
             for (int i = 0; i < 4; i++) {
-                x.subscribe(0, filters[i], i == 3 ? 1 : 2 - i);
+                x.subscribe(d, filters[i], (d + i) % 3);
             }
-            int[] before = Seen.all(x);
-            DUE.yes("unsubscribe", x.unsubscribe(0, filters[gone]));
-            DUE.changedAlone("unsubscribe", x, before, Set.of("subscriptionQos(0, " + filters[gone] + ")"));
-            for (int i = 0; i < 4; i++) {
-                DUE.is("unsubscribe " + filters[i], x.unsubscribe(0, filters[i]), i != gone);
-            }
-            DUE.is("none is left", x.pending(0, DOWN) + Moves.publishThrough(x, 0, 33, 1, 2), 1);
-            DUE.is("received", x.received(0, 1), 0);
+        }
+        int[] before = Seen.all(x);
+        DUE.yes("unsubscribe", x.unsubscribe(c, filters[gone]));
+        DUE.changedAlone("unsubscribe", x, before, Set.of("subscriptionQos(" + c + ", " + filters[gone] + ")"));
+        DUE.is("it is gone", x.subscriptionQos(c, filters[gone]), -1);
+        for (int i = 0; i < 4; i++) {
+            DUE.is("unsubscribe " + filters[i], x.unsubscribe(c, filters[i]), i != gone);
+        }
+        Moves.publishThrough(x, c, 33, 1, 2);
+        for (int d = 0; d < 4; d++) {
+            DUE.is("received " + d, x.received(d, 1), d == c ? 0 : 1);
         }
     }
 
