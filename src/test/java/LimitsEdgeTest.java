@@ -520,47 +520,65 @@ public final class LimitsEdgeTest {
         }
     }
 
-    /** Id 1 goes from the oldest entry to the newest and then to another; 2 and 3 stay in use all the time. */
+    /**
+     * Id 1 goes from the oldest entry to the newest, which ends, and then to another. Ids 2 and 3 stay in use and in
+     * the broker's HELD set, as their answers meet a full wire: a serial that took one of them would not be accepted.
+     */
     private static void freedNewestAtAClient(int c) {
         PubSubBroker x = new PubSubBroker();
         x.connect(c, true);
-        x.publish(c, 1, 1, 1);
-        x.publish(c, 1, 1, 2);
-        x.publish(c, 1, 1, 2);
-        Moves.up(x, c);
-        x.toClient(c);
-        x.publish(c, 1, 1, 1);
+        Moves.publishThrough(x, c, 1, 5, 4);
+        x.publish(c, 2, 1, 1);
+        x.publish(c, 2, 1, 2);
+        x.publish(c, 2, 1, 2);
         x.toBroker(c);
-        DUE.is("the newest ends", Moves.down(x, c), "332");
-        x.publish(c, 1, 1, 2);
-        DUE.is("entries", x.pending(c, CLIENT_OUT), 3);
-        Moves.settle(x);
-        DUE.is("all end", x.pending(c, CLIENT_OUT) + x.pending(c, BROKER_HELD), 0);
-        for (int s = 1; s <= 5; s++) {
-            DUE.is("accepted once", x.accepted(s), 1);
-        }
+        x.toClient(c);
+        x.publish(c, 2, 1, 1);
+        loseOneAnswer(x, c);
+        loseOneAnswer(x, c);
+        x.toBroker(c);
+        DUE.is("the newest ends", Moves.down(x, c), "2");
+        DUE.is("entries", x.pending(c, CLIENT_OUT), 2);
+        DUE.is("another", x.publish(c, 2, 1, 2), 6);
+        Moves.up(x, c);
+        DUE.is("is accepted", x.accepted(6), 1);
+        DUE.is("three ids", x.pending(c, BROKER_HELD), 3);
     }
 
+    /** The same at the broker: UP(c) is full when client c handles the serials under ids 2 and 3. */
     private static void freedNewestAtTheBroker(int c, int other) {
         PubSubBroker x = new PubSubBroker();
         x.connect(c, true);
         x.connect(other, true);
-        x.subscribe(c, 1, 2);
-        Moves.publishThroughBroker(x, other, 1, 1);
-        Moves.publishThroughBroker(x, other, 1, 2);
-        Moves.publishThroughBroker(x, other, 1, 2);
-        Moves.down(x, c);
-        x.toBroker(c);
-        Moves.publishThroughBroker(x, other, 1, 1);
-        x.toClient(c);
-        DUE.is("the newest ends", Moves.up(x, c), "332");
-        Moves.publishThroughBroker(x, other, 1, 2);
-        DUE.is("entries", x.pending(c, BROKER_OUT), 3);
-        Moves.settle(x);
-        DUE.is("all end", x.pending(c, BROKER_OUT) + x.pending(c, CLIENT_HELD), 0);
-        for (int s = 1; s <= 5; s++) {
-            DUE.is("received once", x.received(c, s), 1);
+        Moves.publishThrough(x, other, 1, 5, 5);
+        x.subscribe(c, 2, 2);
+        for (int id = 1; id <= 16; id++) {
+            x.subscribe(c, 1, 1);
         }
+        for (int id = 1; id <= 3; id++) {
+            x.toClient(c);
+            x.toBroker(c);
+        }
+        x.subscribe(c, 1, 1);
+        Moves.publishThroughBroker(x, other, 2, 2);
+        Moves.publishThroughBroker(x, other, 2, 2);
+        for (int id = 4; id <= 17; id++) {
+            x.toClient(c);
+        }
+        for (int s = 4; s <= 21; s++) {
+            x.publish(c, 3, 1, 0);
+        }
+        DUE.is("up is full", x.pending(c, UP), 32);
+        DUE.is("ids 2 and 3", Moves.down(x, c), "11");
+        DUE.is("their answers are lost", Moves.up(x, c), "2".repeat(14) + "1".repeat(18));
+        Moves.publishThroughBroker(x, other, 2, 1);
+        DUE.is("the newest", Moves.down(x, c), "1");
+        DUE.is("ends", Moves.up(x, c), "2");
+        DUE.is("entries", x.pending(c, BROKER_OUT), 2);
+        Moves.publishThroughBroker(x, other, 2, 2);
+        Moves.down(x, c);
+        DUE.is("another is received", x.received(c, 23), 1);
+        DUE.is("three ids", x.pending(c, CLIENT_HELD), 3);
     }
 
     /** Client c with something in each of its places; persistent and down. */
