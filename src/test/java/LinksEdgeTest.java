@@ -125,6 +125,7 @@ public final class LinksEdgeTest {
         refusedConnect(Start.FULL, 1);
         for (int c = 0; c < 4; c++) {
             int client = c;
+            refusedConnect(Start.WAITING, c);
             refusedConnect(new Start("a new persistent session", () -> connected(client, false)), c);
             refusedConnect(new Start("a new clean session", () -> connected(client, true)), c);
         }

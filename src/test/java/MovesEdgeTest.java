@@ -104,6 +104,7 @@ public final class MovesEdgeTest {
         DUE.changesNothing(busy, "toClient(1)", x -> x.toClient(1), NONE);
         DUE.changesNothing(full, "toClient(0)", x -> x.toClient(0), NONE);
         DUE.changesNothing(Start.FULL, "toClient(1)", x -> x.toClient(1), NONE);
+        DUE.changesNothing(Start.WAITING, "toClient(2)", x -> x.toClient(2), NONE);
     }
 
     private static PubSubBroker linked(int c) {

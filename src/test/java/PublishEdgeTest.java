@@ -68,6 +68,7 @@ public final class PublishEdgeTest {
         for (int flags : WRONG_FLAGS) {
             refused(Start.BUSY, 0, 1, flags, ERR_ARG);
             refused(Start.BUSY, 1, 3549, flags, ERR_ARG);
+            refused(Start.WAITING, 2, 1, flags, ERR_ARG);
         }
     }
 
@@ -103,6 +104,7 @@ public final class PublishEdgeTest {
         for (int topic : TOPICS_OUTSIDE) {
             refused(Start.BUSY, 0, topic, 0, ERR_ARG);
             refused(Start.BUSY, 1, topic, 6, ERR_ARG);
+            refused(Start.WAITING, 3, topic, 4, ERR_ARG);
         }
     }
 
@@ -116,6 +118,7 @@ public final class PublishEdgeTest {
             DUE.is("one more", x.publish(0, 1, 1, flags), ERR_LIMIT);
             refused(Start.FULL, 0, 1, flags, ERR_LIMIT);
             refused(Start.FULL, 1, 1, flags, ERR_LIMIT);
+            refused(Start.WAITING, 2, 33, flags, ERR_LIMIT);
         }
     }
 

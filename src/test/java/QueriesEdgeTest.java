@@ -11,6 +11,9 @@ public final class QueriesEdgeTest {
     private static final int[] ARGUMENTS = {Integer.MIN_VALUE, -1, 0, 1, 2, 3, 4, 5, 6, 7, 8, 9, 10, 11, 12, 13, 14, 15,
         16, 17, 18, 19, 20, 21, 22, 23, 24, 25, 33, 225, 241, 801, 4095, 4096, Integer.MAX_VALUE};
 
+    private static final int[][] PAIRS = {{0, 0}, {0, 1}, {0, 2}, {0, 3}, {0, 4}, {0, 5}, {0, 6}, {0, 7}, {1, 1}, {2, 225},
+        {3, 24}, {33, 1}, {-1, 0}, {4, 25}};
+
     public static void main(String[] args) {
         DUE.sentence("Promise 9: answers -1 if c is not in 0..3", QueriesEdgeTest::receivedWrongClient);
         DUE.sentence("Promise 9: or s is not in 1..MAX_PUBS", QueriesEdgeTest::receivedWrongSerial);
@@ -395,6 +398,10 @@ public final class QueriesEdgeTest {
     private static void quiet(BiConsumer<PubSubBroker, int[]> query) {
         for (Start start : Start.all()) {
             DUE.is("the answers after the queries on " + start, start.difference(x -> everyPair(x, query)), "");
+            for (int[] pair : PAIRS) {
+                DUE.is("the answers after a query of " + pair[0] + ", " + pair[1] + " on " + start,
+                        start.difference(x -> query.accept(x, pair)), "");
+            }
         }
     }
 

@@ -15,7 +15,9 @@ final class Start {
         return x;
     });
 
-    private static final Start[] ALL = {FRESH, BUSY, FULL, FULL_DOWN};
+    static final Start WAITING = new Start("a broker with all serials on their way", Start::waiting);
+
+    private static final Start[] ALL = {FRESH, BUSY, FULL, FULL_DOWN, WAITING};
 
     private static final int[] RETAINED_TOPICS = {1, 33, 49, 801, 2, 34, 3, 3549};
 
@@ -135,6 +137,20 @@ final class Start {
         }
         for (int i = 0; i < PubSubBroker.WIRE; i += PubSubBroker.MAX_RETAINED) {
             x.subscribe(0, 15, 0);
+        }
+        return x;
+    }
+
+    /** Six retained serials of each client are on UP: what they stand for shows once they are accepted. */
+    private static PubSubBroker waiting() {
+        PubSubBroker x = new PubSubBroker();
+        int[] topics = {1, 2, 3, 4, 5, 13, 33, 34};
+        for (int c = 0; c < PubSubBroker.CLIENTS; c++) {
+            x.connect(c, c % 2 == 0);
+            x.subscribe(c, c == 0 ? 15 : topics[c], 2);
+        }
+        for (int s = 1; s <= PubSubBroker.MAX_PUBS; s++) {
+            x.publish(s % 4, topics[s % 8], s, 4 + s / 4 % 3);
         }
         return x;
     }

@@ -5,6 +5,7 @@ public final class StartTest {
     public static void main(String[] args) {
         busyBroker();
         fullBroker();
+        waitingBroker();
         unseenChangesAreFound();
         DUE.end();
     }
@@ -37,6 +38,16 @@ public final class StartTest {
         DUE.is("serials", x.publish(1, 1, 1, 0), PubSubBroker.ERR_LIMIT);
         DUE.is("subscriptions", x.subscribe(0, 1, 0), PubSubBroker.ERR_FULL);
         DUE.is("retained entries", x.subscribe(1, 15, 0), 8);
+    }
+
+    private static void waitingBroker() {
+        PubSubBroker x = Start.WAITING.make();
+        for (int c = 0; c < 4; c++) {
+            DUE.is("up " + c, x.pending(c, PubSubBroker.P_UP), 6);
+            DUE.is("entries of " + c, x.pending(c, PubSubBroker.P_CLIENT_OUT), 4);
+        }
+        DUE.is("serials", x.publish(0, 1, 1, 0), PubSubBroker.ERR_LIMIT);
+        DUE.is("retained entries", x.subscribe(1, 15, 0), 0);
     }
 
     /** Each of these runs ends as it began for every query, but for the packets and ids that no query tells. */

@@ -78,6 +78,7 @@ public final class SubscribeEdgeTest {
                 refused(Start.BUSY, 0, filter, qos, ERR_ARG);
             }
             refused(Start.BUSY, 1, filter, 1, ERR_ARG);
+            refused(Start.WAITING, 3, filter, 1, ERR_ARG);
         }
     }
 
@@ -85,6 +86,7 @@ public final class SubscribeEdgeTest {
         for (int filter : FILTERS_OUTSIDE) {
             refused(Start.BUSY, 0, filter, 2, ERR_ARG);
             refused(Start.BUSY, 1, filter, 0, ERR_ARG);
+            refused(Start.WAITING, 2, filter, 0, ERR_ARG);
         }
     }
 
@@ -93,6 +95,7 @@ public final class SubscribeEdgeTest {
             refused(Start.BUSY, 0, 15, qos, ERR_ARG);
             refused(Start.BUSY, 0, 241, qos, ERR_ARG);
             refused(Start.BUSY, 1, 1, qos, ERR_ARG);
+            refused(Start.WAITING, 0, 15, qos, ERR_ARG);
         }
         for (int qos = 0; qos <= 2; qos++) {
             PubSubBroker x = new PubSubBroker();
@@ -294,6 +297,7 @@ public final class SubscribeEdgeTest {
             unsubscribe(Start.BUSY, 0, filter);
             unsubscribe(Start.FULL, 0, filter);
             unsubscribe(Start.FULL, 1, filter);
+            unsubscribe(Start.WAITING, 0, filter);
         }
         unsubscribe(Start.BUSY, 0, 15);
         unsubscribe(Start.FULL, 1, 15);
