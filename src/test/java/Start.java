@@ -144,7 +144,7 @@ final class Start {
     /** Six retained serials of each client are on UP: what they stand for shows once they are accepted. */
     private static PubSubBroker waiting() {
         PubSubBroker x = new PubSubBroker();
-        int[] topics = {1, 2, 3, 4, 5, 13, 33, 34};
+        int[] topics = {34, 1, 2, 3, 4, 5, 13, 33};
         for (int c = 0; c < PubSubBroker.CLIENTS; c++) {
             x.connect(c, c % 2 == 0);
             x.subscribe(c, c == 0 ? 15 : topics[c], 2);
